@@ -556,13 +556,6 @@ public final class ChronicleWar {
         final Pages pages = new Pages();
         final Annals annals = new Annals();
 
-        void reset() {
-            day = 1;
-            forgetOrders();
-            armies.size = 0;
-            pages.size = 0;
-        }
-
         void copyFrom(Now other) {
             day = other.day;
             System.arraycopy(other.order, 0, order, 0, DUKES);
@@ -579,12 +572,12 @@ public final class ChronicleWar {
             return d >= 1 && d < day && d <= LAST_DAY;
         }
 
-        /** Whether a PAGE that there is is FULFILLED, BROKEN or OPEN. */
+        /** Whether a PAGE that there is is FULFILLED, BROKEN or OPEN; of him, one of both is enough. */
         int stateOf(int k) {
             if (pages.who[k] != HIM) {
                 return stateAsOf(k, pages.who[k]);
             }
-            return Math.min(stateAsOf(k, 0), stateAsOf(k, 1));
+            return stateAsOf(k, 0) == BROKEN ? stateAsOf(k, 1) : stateAsOf(k, 0);
         }
 
         /** The same, if it were told of that DUKE. */
@@ -827,7 +820,10 @@ public final class ChronicleWar {
         }
     }
 
-    /** THE TEXT, and how it is read; what it tells is held apart, as a FAULT may come late. */
+    /**
+     * THE TEXT, and how it is read; what it tells is held apart, as a FAULT may come late. No DAY
+     * goes by in toldNow: it is DAY 1 there, without ORDERS.
+     */
     private static final class Text {
         private static final int END = -1, NUMBER = -2, NO_TOKEN = -3;
 
@@ -850,7 +846,8 @@ public final class ChronicleWar {
         /** How many ITEMS, or FAULT_BASE less the place of the TOKEN that can't stand there. */
         int readAll() {
             toldLand.reset();
-            toldNow.reset();
+            toldNow.armies.size = 0;
+            toldNow.pages.size = 0;
             place = 0;
             for (int items = 0; items <= MAX_LETTERS; items++) {
                 readToken();
@@ -968,7 +965,7 @@ public final class ChronicleWar {
             boolean isZeroAhead = letters[place] == '0';
             number = 0;
             while (place < length && isDigit(letters[place])) {
-                number = Math.min(10 * number + letters[place] - '0', 100);
+                number = 10 * number + letters[place] - '0';
                 place++;
             }
             int digits = place - tokenPlace;

@@ -30,6 +30,7 @@ final class BestTest {
         dutiful(war, 0, 0);
         dutiful(war, 1, 0, 10);
         dutiful(new ChronicleWar(), 1, 0);
+        dutiful(Due.told("f8;r6 7;" + "a1 0 1;".repeat(5) + "a0 6 1;"), 0, 0, 48);
     }
 
     private static void dutifulByPages() {

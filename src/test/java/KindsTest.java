@@ -5,6 +5,7 @@ final class KindsTest {
         ratesOfOneThatIsGone();
         ratesRefused();
         images();
+        imageOfTheLastDay();
         imagesRefused();
         imagesKeepNothingElse();
         Due.end();
@@ -86,6 +87,23 @@ final class KindsTest {
         Due.is("back(1) from the end", war.back(1), 2);
         Due.is("back(0) to the end", war.back(0), 10);
         Due.is("day()", war.day(), ChronicleWar.STATE);
+    }
+
+    private static void imageOfTheLastDay() {
+        ChronicleWar war = Due.told("r0 1;r2 1;a0 0 5;a1 2 3;");
+        war.keep(1);
+        Due.days(war, 8);
+        war.orders(0, 2);
+        war.orders(1, 10);
+        war.day();
+        war.keep(0);
+        war.back(1);
+        Due.days(war, 9);
+        Due.is("written(9, 2) without a battle", war.written(9, 2), 0);
+        Due.is("back(0)", war.back(0), 10);
+        Due.is("written(9, 0)", war.written(9, 0), 1);
+        Due.is("written(9, 1)", war.written(9, 1), 1);
+        Due.is("written(9, 2)", war.written(9, 2), 2);
     }
 
     private static void imagesRefused() {

@@ -290,8 +290,12 @@ final class LandTest {
         Due.is("written(-1, 0)", war.written(-1, 0), ChronicleWar.NO);
         Due.is("written(1, 3)", war.written(1, 3), ChronicleWar.NO);
         Due.is("written(1, -1)", war.written(1, -1), ChronicleWar.NO);
-        Due.days(war, 7);
-        Due.is("written(9, 0)", war.written(9, 0), ChronicleWar.NONE);
+        Due.days(war, 6);
+        war.orders(0, 2);
+        Due.is("written(9, 0) on day 9", war.written(9, 0), ChronicleWar.NO);
+        war.day();
+        Due.is("written(9, 0)", war.written(9, 0), 1);
+        Due.is("written(9, 1)", war.written(9, 1), ChronicleWar.NONE);
         Due.is("written(10, 0)", war.written(10, 0), ChronicleWar.NO);
     }
 

@@ -31,6 +31,8 @@ final class WarTest {
 
     private static void ordersRefused() {
         ChronicleWar war = Due.told("f8;r0 1;r0 7;a0 0 5;a1 0 6;");
+        ChronicleWar last = Due.told("f8;r6 7;" + "a1 0 1;".repeat(5) + "a0 6 1;");
+        Due.is("orders(0, 48) of the last ARMY", last.orders(0, 48), 1);
         int[] bad = {-1, 1, 3, 9, 10, 16, 17, 18, 48, 49, 50, Integer.MAX_VALUE, Integer.MIN_VALUE};
         for (int order : bad) {
             Due.is("orders(0, " + order + ")", war.orders(0, order), ChronicleWar.BAD);
