@@ -730,31 +730,34 @@ public final class ChronicleWar {
         /** The PAGES to be struck, as bits: the fewest, and of several the least. */
         static int leastStruck(Now now) {
             int all = (1 << now.pages.size) - 1;
+            int broken = brokenPages(now);
             int least = all;
             for (int struck = 0; struck < all; struck++) {
-                if (Integer.bitCount(struck) < Integer.bitCount(least) && isSound(now, struck)) {
+                boolean isFewer = Integer.bitCount(struck) < Integer.bitCount(least);
+                if (isFewer && (broken & ~struck) == 0 && areAtPeace(now.pages, all & ~struck)) {
                     least = struck;
                 }
             }
             return least;
         }
 
-        private static boolean isSound(Now now, int struck) {
-            for (int j = 0; j < now.pages.size; j++) {
-                if ((struck >> j & 1) == 0 && !isSoundPage(now, struck, j)) {
-                    return false;
+        private static int brokenPages(Now now) {
+            int broken = 0;
+            for (int k = 0; k < now.pages.size; k++) {
+                if (now.stateOf(k) == BROKEN) {
+                    broken |= 1 << k;
                 }
             }
-            return true;
+            return broken;
         }
 
-        private static boolean isSoundPage(Now now, int struck, int j) {
-            if (now.stateOf(j) == BROKEN) {
-                return false;
-            }
-            for (int k = j + 1; k < now.pages.size; k++) {
-                if ((struck >> k & 1) == 0 && now.pages.areClashing(j, k)) {
-                    return false;
+        /** Whether no two of these PAGES (bits) CLASH. */
+        private static boolean areAtPeace(Pages pages, int these) {
+            for (int j = 0; j < pages.size; j++) {
+                for (int k = j + 1; k < pages.size; k++) {
+                    if ((these >> j & these >> k & 1) == 1 && pages.areClashing(j, k)) {
+                        return false;
+                    }
                 }
             }
             return true;
@@ -928,7 +931,8 @@ public final class ChronicleWar {
         }
 
         private boolean readField() {
-            return readNumber(0, toldLand.fields - 1);
+            readToken();
+            return token == NUMBER && toldLand.has(number);
         }
 
         private boolean readNumber(int from, int to) {
@@ -960,7 +964,10 @@ public final class ChronicleWar {
             }
         }
 
-        /** A third digit makes a NUMBER above 99 or stands behind a 0: both are no TOKENS. */
+        /**
+         * A third digit makes a NUMBER above 99 or stands behind a 0: both are no TOKENS. (What many
+         * digits make of the number is not asked then.)
+         */
         private void readDigits() {
             boolean isZeroAhead = letters[place] == '0';
             number = 0;
