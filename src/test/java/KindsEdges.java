@@ -14,6 +14,7 @@ final class KindsEdges {
         keepRefused();
         backRefused();
         keepKeepsNow();
+        keepKeepsEachDayWrittenDown();
         imagesAreTwo();
         imageKeptAgain();
         nothingElse();
@@ -147,6 +148,39 @@ final class KindsEdges {
             war.keep(0);
             return war.back(0);
         }, 2);
+    }
+
+    /** DUKE 0 fights on DAYS 1 to 4 and on DAY 9; DUKE 1 goes to and fro until DAY 8. */
+    private static int[] eventful(int d) {
+        int goal0 = d <= 4 ? d : d == 9 ? 5 : Edge.NONE;
+        int goal1 = d == 9 ? Edge.NONE : d % 2 == 1 ? 0 : 5;
+        return new int[] {goal0, goal1, goal0 == Edge.NONE ? 0 : 1 << goal0};
+    }
+
+    private static void keepKeepsEachDayWrittenDown() {
+        Edge.sentence("ORDERS, PAGES, what is WRITTEN DOWN)", 23, 24);
+        ChronicleWar war = Due.told("f6;" + Wars.allRoads(6) + "a0 0 9;a1 1 1;a1 2 1;a1 3 1;a1 4 1;a1 5 1;");
+        war.keep(1);
+        for (int d = 1; d <= 9; d++) {
+            int[] goals = eventful(d);
+            war.orders(0, goals[0] == Edge.NONE ? 0 : goals[0] + 1);
+            war.orders(1, goals[1] == Edge.NONE ? 0 : 8 * 5 + goals[1] + 1);
+            war.day();
+        }
+        Edge.is("keep(0)", war.keep(0), 10);
+        Edge.is("back(1)", war.back(1), 1);
+        Due.days(war, 9);
+        for (int d = 1; d <= 9; d++) {
+            Edge.is("otherwise: written(" + d + ", 0)", war.written(d, 0), Edge.NONE);
+            Edge.is("otherwise: written(" + d + ", 1)", war.written(d, 1), Edge.NONE);
+            Edge.is("otherwise: written(" + d + ", 2)", war.written(d, 2), 0);
+        }
+        Edge.is("back(0)", war.back(0), 10);
+        for (int d = 1; d <= 9; d++) {
+            for (int what = 0; what < 3; what++) {
+                Edge.is("as kept: written(" + d + ", " + what + ")", war.written(d, what), eventful(d)[what]);
+            }
+        }
     }
 
     private static ChronicleWar keptJustNow() {
