@@ -6,6 +6,7 @@ import java.lang.reflect.Modifier;
 import java.nio.file.Files;
 import java.nio.file.Path;
 import java.util.TreeSet;
+import java.util.regex.Matcher;
 import java.util.regex.Pattern;
 
 /** The public face, and rules of LANGUAGE.md that can be seen from the class or its file. */
@@ -23,6 +24,7 @@ final class FaceTest {
     public static void main(String[] args) throws IOException {
         constants();
         members();
+        insideClasses();
         fileKeepsToTheLanguage();
         Due.end();
     }
@@ -67,11 +69,27 @@ final class FaceTest {
             isTrue(f + " is as visible as told", isTold ? Modifier.isPublic(f.getModifiers()) : Modifier.isPrivate(f.getModifiers()));
             isTrue(f + " if static is final", !Modifier.isStatic(f.getModifiers()) || Modifier.isFinal(f.getModifiers()));
         }
-        int inside = c.getDeclaredClasses().length;
-        isTrue("classes inside: " + inside, inside <= 12);
-        for (Class<?> k : c.getDeclaredClasses()) {
+    }
+
+    private static void insideClasses() {
+        Class<?>[] inside = ChronicleWar.class.getDeclaredClasses();
+        isTrue("few classes: " + (inside.length + 1), inside.length + 1 <= 12);
+        TreeSet<String> names = new TreeSet<>();
+        for (Method m : ChronicleWar.class.getMethods()) {
+            names.add(m.getName());
+        }
+        for (Class<?> k : inside) {
             isTrue(k + " is static", Modifier.isStatic(k.getModifiers()));
+            isTrue(k + " is private or package-visible", (k.getModifiers() & (Modifier.PUBLIC | Modifier.PROTECTED)) == 0);
             isTrue(k + " has few fields", k.getDeclaredFields().length <= 20);
+            for (Method m : k.getDeclaredMethods()) {
+                isTrue(m + " bears a name of the face", !Modifier.isPrivate(m.getModifiers()) || !names.contains(m.getName()));
+                isTrue(m + " has few parameters", m.getParameterCount() <= 7);
+            }
+            for (Field f : k.getDeclaredFields()) {
+                boolean isConstant = Modifier.isFinal(f.getModifiers()) && f.getType() == int.class;
+                isTrue(f + " if static is a constant", !Modifier.isStatic(f.getModifiers()) || isConstant);
+            }
         }
     }
 
@@ -83,5 +101,17 @@ final class FaceTest {
             isTrue("no " + word, !Pattern.compile(sought).matcher(code).find());
         }
         isTrue("one import", code.split("\\bimport\\b", -1).length == 2 && code.contains("import java.util.Arrays;"));
+        methodsAreShort(code);
+    }
+
+    /** A method's last line is a brace as far in as its first one. */
+    private static void methodsAreShort(String code) {
+        Matcher method = Pattern.compile("(?ms)^( {4}| {8})(\\w[^\\n;=]*\\) \\{)$(.*?)^\\1\\}$").matcher(code);
+        int many = 0;
+        while (method.find()) {
+            many++;
+            isTrue(method.group(2) + " is short", method.group(3).split("\n", -1).length <= 60);
+        }
+        isTrue("methods were found: " + many, many > FACE.length);
     }
 }
